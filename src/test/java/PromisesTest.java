@@ -97,7 +97,13 @@ public final class PromisesTest {
     due(when + " table", x.table(0, NONE, 2, 1, 0), 0);
     due(when + " table's entries", x.entries(0), 0);
     due(when + " insert with no key() yet", x.insert(0, 0, 0, 0, 0), true);
-    due(when + " its masks are 0", x.matches(0), 0);
+    due(when + " second field", x.field(8), 1);
+    due(when + " table of both", x.table(0, 1, 2 + 4 * 2, 1, 0), 1);
+    due(when + " insert into it", x.insert(1, 0, 0, 0, 0), true);
+    x.set(0, ALL);
+    x.set(1, ALL);
+    due(when + " all masks are 0", x.matches(0), 0);
+    due(when + " for both keys", x.matches(1), 0);
     due(when + " act", x.act(0), true);
     due(when + " the action had no doings: port", x.port(), 0);
     due(when + " the action had no doings: drop", x.isDropped(), false);
