@@ -1,76 +1,5 @@
 /** For each promise of the document: ordinary inputs, the edges that it names, wrong inputs. */
-public final class PromisesTest {
-  private static final int NONE = EntryTables.NONE;
-  private static final int ALL = -1;
-  private static final int[] NO_NUMBER = {
-    Integer.MIN_VALUE, -33, -32, -16, -2, -1, 16, 20, 31, 32, 33, 64, Integer.MAX_VALUE
-  };
-
-  private static int wrong = 0;
-
-  private interface Call {
-    void run();
-  }
-
-  private static void due(String what, long got, long want) {
-    if (got != want) {
-      wrong++;
-      System.out.println(what + " answered " + got + ", due is " + want);
-    }
-  }
-
-  private static void due(String what, boolean got, boolean want) {
-    due(what, got ? 1L : 0L, want ? 1L : 0L);
-  }
-
-  private static void dueThrow(String what, Class<?> want, Call call) {
-    Class<?> got = null;
-    try {
-      call.run();
-    } catch (RuntimeException e) {
-      got = e.getClass();
-    }
-    if (got != want) {
-      wrong++;
-      System.out.println(what + " threw " + got + ", due is " + want);
-    }
-  }
-
-  private static void dueIndex(String what, Call call) {
-    dueThrow(what, IndexOutOfBoundsException.class, call);
-  }
-
-  private static void dueArgument(String what, Call call) {
-    dueThrow(what, IllegalArgumentException.class, call);
-  }
-
-  private static void dueState(String what, Call call) {
-    dueThrow(what, IllegalStateException.class, call);
-  }
-
-  /** Fields 0 .. 3 of 32, 8, 4 and 1 bits, and actions 0 .. 3 without doings. */
-  private static EntryTables ready() {
-    EntryTables x = new EntryTables();
-    x.field(32);
-    x.field(8);
-    x.field(4);
-    x.field(1);
-    for (int i = 0; i < 4; i++) {
-      x.action();
-    }
-    return x;
-  }
-
-  private static boolean insert(EntryTables x, int table, int value, int mask, int priority, int action) {
-    x.key(value, mask, 0, 0);
-    return x.insert(table, priority, action, 0, 0);
-  }
-
-  private static boolean remove(EntryTables x, int table, int value, int mask) {
-    x.key(value, mask, 0, 0);
-    return x.remove(table);
-  }
-
+public final class PromisesTest extends Due {
   /** Asks all that a new object answers, and uses it up. */
   private static void dueNew(String when, EntryTables x) {
     for (int i = -1; i <= 16; i++) {
@@ -453,9 +382,7 @@ public final class PromisesTest {
 
   private static EntryTables doings(int[][] first) {
     EntryTables x = ready();
-    for (int[] d : first) {
-      x.doing(1, d[0], d[1], d[2], d[3]);
-    }
+    give(x, 1, first);
     x.table(3, NONE, 0, 3, 1);
     x.table(3, NONE, 2, 3, 0);
     x.key(0, 0, 0, 0);
@@ -471,10 +398,6 @@ public final class PromisesTest {
     EntryTables x = doings(doings);
     due("12 act", x.act(table), table == 1);
     return x;
-  }
-
-  private static int[] d(int kind, int x, int y, int z) {
-    return new int[] {kind, x, y, z};
   }
 
   private static void promise12kinds() {
@@ -705,9 +628,6 @@ public final class PromisesTest {
     promise15();
     promise16();
     promise17();
-    System.out.println(wrong == 0 ? "all answers are as due" : wrong + " answers are not as due");
-    if (wrong != 0) {
-      System.exit(1);
-    }
+    end();
   }
 }
