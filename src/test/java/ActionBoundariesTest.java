@@ -346,6 +346,36 @@ public final class ActionBoundariesTest extends Due {
     test("6 DROP alone drops", () -> due("drop", done(d(4, 0, 0, 0), d(5, 0, 0, 0)).isDropped(), false));
   }
 
+  /** All numbers are 1, so that what another kind would do shows too. */
+  private static void dueAlone(int kind, int field, int port, boolean drop, int word) {
+    test("kind " + kind + " does what it says and nothing else", () -> {
+      EntryTables x = done(d(kind, 1, 1, 1));
+      due("field 0", x.get(0), -5);
+      due("field 1", x.get(1), field);
+      due("field 2", x.get(2), 9);
+      due("field 3", x.get(3), 1);
+      due("port", x.port(), port);
+      due("drop", x.isDropped(), drop);
+      for (int array = 0; array < 4; array++) {
+        for (int i = 0; i < 16; i++) {
+          due("word " + array + ", " + i, x.word(array, i), array == 1 && i == 200 % 16 ? word : 0);
+        }
+      }
+    });
+  }
+
+  private static void eachAlone() {
+    dueAlone(0, 1, 0, false, 0);
+    dueAlone(1, 200, 0, false, 0);
+    dueAlone(2, 401 - 256, 0, false, 0);
+    dueAlone(3, SECOND + 256, 0, false, 0);
+    dueAlone(4, 200, 1, false, 0);
+    dueAlone(5, 200, SECOND, false, 0);
+    dueAlone(6, 200, 0, true, 0);
+    dueAlone(7, 200, 0, false, 1);
+    dueAlone(8, 0, 0, false, 0);
+  }
+
   private static final int[] MODULO = {
     0, 1, 7, 14, 15, 16, 17, 31, 32, 255, 256, MAX - 15, MAX, MIN, MIN + 1, -17, -16, -15, -5, -1
   };
@@ -540,6 +570,7 @@ public final class ActionBoundariesTest extends Due {
     operands();
     fieldKinds();
     portKinds();
+    eachAlone();
     modulos();
     arrayKinds();
     words();

@@ -513,7 +513,7 @@ public final class EntryBoundariesTest extends Due {
     test("9 no key() yet: no values, no masks", () -> {
       EntryTables x = one(8, MASKED);
       due("insert", x.insert(0, 0, 1, 0, 0), true);
-      due("all words match", matching(x, 77), 1);
+      due("all words match", matching(x, ALL), 1);
       due("not all ones", one(8, EXACT).insert(0, 0, 1, 0, 0), false);
     });
     test("2 no key() yet after clear()", () -> {
@@ -529,7 +529,10 @@ public final class EntryBoundariesTest extends Due {
       due("the mask of f", x.insert(0, 0, 0, 0, 0), false);
       due("the mask of g", x.insert(1, 0, 0, 0, 0), false);
       due("both", x.insert(2, 0, 0, 0, 0), true);
-      due("all words match", x.matches(2), 0);
+      due("words of no ones match", x.matches(2), 0);
+      x.set(0, ALL);
+      x.set(1, ALL);
+      due("words of all ones match", x.matches(2), 0);
     });
   }
 
