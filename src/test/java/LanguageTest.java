@@ -66,8 +66,8 @@ public final class LanguageTest {
   }
 
   private static void libraryRule(String code) {
-    Matcher used = Pattern.compile("\\b(java[.]\\w+[.]\\w+|(?:Arrays|Math|Integer|Long|System|List|ArrayList|String)[.]\\w+)")
-        .matcher(code);
+    String classes = "java[.]\\w+|Arrays|Math|Integer|Long|System|List|ArrayList|String";
+    Matcher used = Pattern.compile("\\b((?:" + classes + ")[.]\\w+)").matcher(code);
     while (used.find()) {
       rule(4, used.group(1).matches(LIBRARY), "no " + used.group(1));
     }
@@ -89,14 +89,15 @@ public final class LanguageTest {
     }
   }
 
-  /** In this program a method of a class ends at its brace, four blanks or two from the left. */
+  /** In this program a method begins, and ends at its brace, two blanks from the left or four. */
   private static void shortMethods(List<String> lines) {
     int begin = 0;
     for (int i = 0; i < lines.size(); i++) {
-      if (lines.get(i).matches(" {2}(  )?\\S.*[(].*") && !lines.get(i).contains(";")) {
+      String line = lines.get(i);
+      if (line.matches(" {2}(  )?[a-zA-Z].*[({].*") && !line.contains(";")) {
         begin = i;
-      } else if (lines.get(i).matches(" {2}(  )?[}]")) {
-        rule(11, i - begin < 60 || lines.get(begin).contains("class"), "a method ahead of line " + (i + 1) + " is long");
+      } else if (line.matches(" {2}(  )?[}]")) {
+        rule(11, i - begin < 60, "a long method ends on line " + (i + 1));
       }
     }
   }
@@ -121,7 +122,8 @@ public final class LanguageTest {
     for (Field f : one.getDeclaredFields()) {
       boolean isStatic = Modifier.isStatic(f.getModifiers());
       rule(3, isAllowed(f.getType()), "no field " + f);
-      rule(5, !isStatic || (Modifier.isFinal(f.getModifiers()) && f.getType() == int.class), "no static " + f);
+      boolean isConstant = Modifier.isFinal(f.getModifiers()) && f.getType() == int.class;
+      rule(5, !isStatic || isConstant, "no static " + f);
       fields += isStatic ? 0 : 1;
     }
     rule(11, fields <= 20, "20 fields at most: " + one);

@@ -285,6 +285,45 @@ public final class WildCallsTest {
     };
   }
 
+  private static final int PRELUDE = 26;
+
+  /** Three small fields, four actions with doings and tables of them, so that entries often match. */
+  private static int[] prelude(Random r, int step) {
+    if (step < 3) {
+      return new int[] {1, 1 + r.nextInt(4)};
+    }
+    if (step < 7) {
+      return new int[] {4};
+    }
+    if (step < 18) {
+      return new int[] {5, r.nextInt(4), r.nextInt(9), r.nextInt(3), r.nextInt(2), r.nextInt(4)};
+    }
+    int f = r.nextInt(3);
+    int how = new int[] {0, 1, 2, 4, 6, 8, 9, 10}[r.nextInt(8)];
+    int g = how < 3 && r.nextBoolean() ? -1 : (f + 1 + r.nextInt(2)) % 3;
+    return new int[] {6, f, g, how, 15, r.nextInt(4)};
+  }
+
+  /** What is done to the objects of a prelude: each call that finds them, with small numbers. */
+  private static int[] nearCall(Random r) {
+    return switch (r.nextInt(8)) {
+      case 0 -> new int[] {2, r.nextInt(3), r.nextInt(16)};
+      case 1, 2 -> new int[] {7, r.nextInt(16), anyMask(r, 4), r.nextInt(16), anyMask(r, 4)};
+      case 3, 4 -> new int[] {8, r.nextInt(4), r.nextInt(3), r.nextInt(4), r.nextInt(16), anyWord(r)};
+      case 5 -> new int[] {10, r.nextInt(4)};
+      case 6 -> new int[] {11, r.nextInt(4)};
+      default -> new int[][] {{12}, {13}, {3, r.nextInt(3)}, {14, r.nextInt(4), r.nextInt(16)},
+          {15, r.nextInt(4)}, {9, r.nextInt(4)}}[r.nextInt(6)];
+    };
+  }
+
+  private static int[] callOf(Random r, int run, int step) {
+    if (run % 2 == 0 || r.nextInt(50) == 0) {
+      return anyCall(r, step);
+    }
+    return step < PRELUDE ? prelude(r, step) : nearCall(r);
+  }
+
   private static int[] anyCall(Random r, int step) {
     // Fields, actions and tables come mostly early, so that later calls have something to use.
     int which = step < 60 && r.nextInt(3) != 0 ? new int[] {1, 4, 5, 5, 6}[r.nextInt(5)] : r.nextInt(40);
@@ -391,7 +430,7 @@ public final class WildCallsTest {
     Model m = new Model();
     int matched = 0;
     for (int step = 0; step < CALLS && wrong < 20; step++) {
-      int[] call = anyCall(r, step);
+      int[] call = callOf(r, run, step);
       String want;
       if (call[0] == 0) {
         m = new Model();
@@ -410,7 +449,7 @@ public final class WildCallsTest {
     for (int run = 0; run < RUNS && wrong < 20; run++) {
       matched += wildRun(run);
     }
-    if (wrong == 0 && matched < RUNS) {
+    if (wrong == 0 && matched < 10 * RUNS) {
       wrong++;
       System.out.println("only " + matched + " calls of act() matched: the runs show too little");
     }
